@@ -83,6 +83,8 @@ public final class RowsLotsImageTest {
     lotsAre(six, 6, 20, -1);
     lotsAre(six, 6, 20, Integer.MIN_VALUE);
     lotsAre(six, 6, 13, Integer.MAX_VALUE);
+    x.whoHad(0, 0);
+    Due.is("lots behind whoHad", x.lots(5, 7, 0), 740);
     Due.is("lots(0, 0, 2)", x.lots(0, 0, 2), -4);
     Due.is("lots(-5, 0, 0)", x.lots(-5, 0, 0), -4);
     Due.is("lots(21, 0, 2)", x.lots(21, 0, 2), -6);

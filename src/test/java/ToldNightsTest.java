@@ -216,6 +216,7 @@ public final class ToldNightsTest {
     sumsAre("o005;gg0203500;gg0353000;", 45, 15, 5, 35, 0, 1, 0);
     sumsAre("o000;gg0202500;", 15, 5, 0, 20, 0, 0, -9);
     sumsAre("o015;gg0203500;", 0, 0, 15, 35, 0, 1, 0);
+    sumsAre("o001;gg0202200;", 3, 1, 1, 22, 0, 1, 0);
     // The CAREFUL one and the THIEF bring it to the end though it burns no more.
     sumsAre("o008;gc0203000;", 48, 12, 8, 20, 0, 1, 0);
     sumsAre("o012;gt0251000;", 0, 18, 12, 25, 0, 1, 0);

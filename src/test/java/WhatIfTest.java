@@ -78,6 +78,9 @@ public final class WhatIfTest {
     LightAsFarAsThePump x = Due.told("gg0303500;");
     Due.is("bestPump", x.bestPump(), 30);
     Due.is("PUMP stays", x.count(1), 20);
+    // Another question asked before changes nothing: the KINDS that it tried are forgotten.
+    Due.is("whoHad", x.whoHad(0, 0), 63);
+    Due.is("bestPump behind whoHad", x.bestPump(), 30);
     Due.is("of several the least", Due.told("gl0303500;").bestPump(), 0);
     Due.is("nobody", new LightAsFarAsThePump().bestPump(), 0);
     Due.is("the LAMP stands there first, too", Due.told("gd0393000;").bestPump(), 39);
@@ -114,6 +117,12 @@ public final class WhatIfTest {
     Due.is("the middle one", three.without(1), 15);
     Due.is("the last one", three.without(2), 0);
     Due.is("of whom nothing changes", three.goer(2, 0), 2);
+    // Those behind him keep their HOURS: 2 goes ahead of 1, and 1 has it for nothing.
+    LightAsFarAsThePump hours = Due.told("gg0000008;gg0253007;gg0202503;");
+    Due.is("HOURS of those behind", hours.without(0), 0);
+    Due.is("COST of them", hours.without(2), -15);
+    LightAsFarAsThePump late = Due.told("gg0000511;gg0253007;gg0202503;");
+    Due.is("HOURS of those behind a late one", late.without(0), 15);
   }
 
   private static void promise14Second() {
@@ -174,6 +183,8 @@ public final class WhatIfTest {
     Due.is("one debt", Due.told("gg0202500;gg0203001;").payments(), 1);
     // -5, -5, 10: two payments.
     Due.is("two pay one", Due.told("gg0202500;gg0203001;gg0102002;").payments(), 2);
+    // 0 owes 1 ten, 1 owes 2 ten, 2 owes 3 ten: 0 pays 3.
+    Due.is("one for all", Due.told("gg0203000;gm0201001;gm0203002;gg0201003;").payments(), 1);
   }
 
   private static void promise18Near() {
