@@ -213,14 +213,18 @@ public final class LightAsFarAsThePump {
         if (!isCell(cell)) {
             return refuseAmongAll(NOBODY);
         }
-        return walk.byHours(alley) - walk.byHoursWithSecond(alley, cell);
+        trial.becomeLike(alley);
+        trial.secondLamp = cell;
+        return walk.byHours(alley) - walk.byHours(trial);
     }
 
     public int bestSecond() {
+        trial.becomeLike(alley);
         int best = 0;
         int least = Integer.MAX_VALUE;
         for (int cell = 0; cell < CELLS; cell++) {
-            int cost = walk.byHoursWithSecond(alley, cell);
+            trial.secondLamp = cell;
+            int cost = walk.byHours(trial);
             if (cost < least) {
                 least = cost;
                 best = cell;
@@ -465,7 +469,7 @@ public final class LightAsFarAsThePump {
         }
     }
 
-    /** What is told: the GOERS, the PUMP, OIL and DARK. */
+    /** What is told: the GOERS, the PUMP, OIL and DARK; on trial a second LAMP, too. */
     static final class Alley {
         static final int PUMP = 0;
         static final int OIL = 1;
@@ -480,6 +484,7 @@ public final class LightAsFarAsThePump {
         static final int THIEF = 4;
         static final int LOVER = 5;
         static final int NO_KIND = -1;
+        static final int NO_SECOND_LAMP = -1;
         private static final int GOER_FETCHES = 6;
         private static final int MIDWIFE_FETCHES = 39;
 
@@ -490,12 +495,14 @@ public final class LightAsFarAsThePump {
         final int[] to = new int[GOERS];
         final int[] hour = new int[GOERS];
         int size;
+        int secondLamp;
 
         Alley() {
             Rows.put(setting, PUMP, 20);
             Rows.put(setting, OIL, 100);
             Rows.put(setting, DARK, 3);
             size = 0;
+            secondLamp = NO_SECOND_LAMP;
         }
 
         void becomeLike(Alley other) {
@@ -506,6 +513,7 @@ public final class LightAsFarAsThePump {
             Rows.copy(other.to, to);
             Rows.copy(other.hour, hour);
             size = other.size;
+            secondLamp = other.secondLamp;
         }
 
         int pump() {
@@ -631,8 +639,9 @@ public final class LightAsFarAsThePump {
         /** The CELL to which one carries a LAMP that he took on a CELL. */
         int carriesTo(int goer, int taken) {
             int goal = Rows.at(to, goer);
+            int lacks = Rows.at(figure, goer);
             switch (Rows.at(kind, goer)) {
-                case DRUNK: return shortOf(goal, taken, Rows.at(figure, goer));
+                case DRUNK: return taken <= goal ? Math.max(taken, goal - lacks) : Math.min(taken, goal + lacks);
                 case LOVER: return taken;
                 default: return goal;
             }
@@ -645,13 +654,6 @@ public final class LightAsFarAsThePump {
                 case THIEF: return Rows.at(from, goer);
                 default: return carried;
             }
-        }
-
-        private static int shortOf(int goal, int taken, int cells) {
-            if (taken <= goal) {
-                return Math.max(taken, goal - cells);
-            }
-            return Math.min(taken, goal + cells);
         }
     }
 
@@ -811,14 +813,14 @@ public final class LightAsFarAsThePump {
 
         int byHours(Alley alley) {
             begin(alley);
-            goByHours(alley);
-            return allCost;
-        }
-
-        int byHoursWithSecond(Alley alley, int cell) {
-            begin(alley);
-            addLamp(cell, alley.oil());
-            goByHours(alley);
+            for (int hour = 0; hour < HOURS; hour++) {
+                for (int goer = 0; goer < alley.size; goer++) {
+                    if (Rows.at(alley.hour, goer) == hour) {
+                        go(alley, goer);
+                    }
+                }
+                Rows.put(atEnd, hour, firstLamp());
+            }
             return allCost;
         }
 
@@ -833,6 +835,9 @@ public final class LightAsFarAsThePump {
         private void begin(Alley alley) {
             lamps = 0;
             addLamp(alley.pump(), alley.oil());
+            if (alley.secondLamp != Alley.NO_SECOND_LAMP) {
+                addLamp(alley.secondLamp, alley.oil());
+            }
             went = 0;
             allCost = 0;
             allDark = 0;
@@ -845,17 +850,6 @@ public final class LightAsFarAsThePump {
             Rows.put(lampCell, lamps, cell);
             Rows.put(lampOil, lamps, oil);
             lamps++;
-        }
-
-        private void goByHours(Alley alley) {
-            for (int hour = 0; hour < HOURS; hour++) {
-                for (int goer = 0; goer < alley.size; goer++) {
-                    if (Rows.at(alley.hour, goer) == hour) {
-                        go(alley, goer);
-                    }
-                }
-                Rows.put(atEnd, hour, firstLamp());
-            }
         }
 
         private void go(Alley alley, int goer) {
